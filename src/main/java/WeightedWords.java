@@ -688,10 +688,10 @@ public final class WeightedWords {
 
         Machine(Realm realm, int most) {
             this.realm = realm;
-            this.most = most;
-            starts = new int[most];
-            ends = new int[most];
-            weights = new int[most * MOST_LETTERS * most];
+            this.most = most >= 0 && most <= Span.WIDEST ? most : 0;
+            starts = new int[this.most];
+            ends = new int[this.most];
+            weights = new int[this.most * MOST_LETTERS * this.most];
         }
 
         boolean has(int s) {

@@ -947,7 +947,7 @@ public final class WeightedWords {
         void seeAllEndings(Machine newMachine) {
             open(newMachine);
             columns.admit(machine.ends);
-            for (int i = 0; i < columns.size; i++) {
+            for (int i = 0; i < columns.size && i < Span.WIDEST; i++) {
                 for (int x = 0; x < realm.letters; x++) {
                     machine.backward(columns.echelon[i], x, there);
                     columns.admit(there);
@@ -993,7 +993,7 @@ public final class WeightedWords {
                 System.arraycopy(machine.starts, 0, here, 0, machine.states);
                 offerHere(0);
             }
-            for (int i = 0; i < size; i++) {
+            for (int i = 0; i < size && i < words.length; i++) {
                 for (int x = 0; x < realm.letters; x++) {
                     machine.forward(reached[i], x, here);
                     offerHere(realm.withLetter(words[i], x));

@@ -967,20 +967,18 @@ public final class WeightedWords {
             shut();
         }
 
-        boolean offer(int w) {
+        void offer(int w) {
             goForth(w);
-            return offerHere(w);
+            offerHere(w);
         }
 
-        private boolean offerHere(int w) {
+        private void offerHere(int w) {
             makeRow();
-            if (size >= words.length || !rows.admit(row)) {
-                return false;
+            if (size < words.length && rows.admit(row)) {
+                words[size] = w;
+                System.arraycopy(here, 0, reached[size], 0, machine.states);
+                size++;
             }
-            words[size] = w;
-            System.arraycopy(here, 0, reached[size], 0, machine.states);
-            size++;
-            return true;
         }
 
         /**

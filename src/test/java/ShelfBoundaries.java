@@ -35,7 +35,16 @@ final class ShelfBoundaries {
         Run run = Samples.told(Samples.RING).calls("ask(2)", "learn()", "learn()", "keep(1)", "shrink()", "drop(0)");
         run.due("back(1) 4", "rule(2) 4", "rule(4) 4", "rule(5) 4", "rule(6) 7", "rule(7) 2", "rule(3) 4", "counter() NONE");
         run.due("prefix(3) 3", "suffix(6) 6", "basis(3) 3", "edge(0, 3, 0, 0) 1", "edge(1, 3, 0, 0) 1", "finish(1, 2) 1");
+        // the table is the image's own, whatever came in its place
+        run = Samples.told(Samples.CROSSED).calls("close()", "ask(1)", "close()", "ask(5)", "ask(2)", "close()", "keep(0)");
+        run.calls("begins(0, 1)", "ask(62)", "close()").due("prefix(1) 1", "suffix(1) 2", "rule(6) 6", "back(0) 3", "rule(6) 4");
+        run.due("prefix(0) 0", "prefix(1) 2", "prefix(2) 1", "prefix(3) NONE");
+        run.due("suffix(0) 0", "suffix(1) 1", "suffix(2) 5", "suffix(3) 2", "suffix(4) NONE");
+        // so is the least machine of its teacher, also if another was looked at
+        Samples.told(Samples.ABA).due("rule(4) 4", "keep(0) 0", "scale(0) 4", "rule(4) 0", "basis(0) NONE", "back(0) 4",
+                "rule(4) 4", "basis(3) 9", "value(2) 0", "start(2, 3) 0", "finish(2, 3) 6");
         // it stays an image, and what comes of all else does not touch it
+        run = Samples.told(Samples.RING).calls("ask(2)", "learn()", "learn()", "keep(1)");
         run.due("drop(0) 3", "learn() NONE", "back(1) 4", "rule(7) 2", "rule(3) 4", "back(1) 4", "rule(11) 1");
         // what is in no image stays: the word, the tape, the shelves
         Samples.fresh().due("keep(0) 0", "letter(0) 1", "feed(9) 1", "shelf(1, 0, 2) 1", "lay(1, 0, 0) 1", "back(0) 0",
@@ -101,6 +110,9 @@ final class ShelfBoundaries {
                 "begins(3, 1) 0", "differ(0) NONE", "begins(3, 0) 1", "ends(3, 1) 0", "differ(0) NONE", "begins(3, 1) 0",
                 "differ(0) 0");
         Samples.told(Samples.RING).due("keep(0) 0", "shrink() 4", "differ(0) NONE", "back(0) 4", "differ(0) NONE");
+        // four states that go round, four that do not, of which none ends
+        Samples.told(Samples.RING).due("ends(2, 0) 1", "keep(0) 0", "leads(3, 0, 0, 0) 1", "differ(0) NONE", "ends(3, 1) 0",
+                "differ(0) 3");
     }
 
     // ---- promise 38

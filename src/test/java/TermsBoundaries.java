@@ -316,12 +316,14 @@ final class TermsBoundaries {
         int[][] rows = {{7, 0, 0}, {7, 6, 6}, {7, 7, 0}, {7, 8, 1}, {7, 98, 0}, {7, 99, 1}, {2, 1, 1}, {2, 2, 0},
             {2, 99, 1}, {97, 96, 96}, {97, 97, 0}, {97, 98, 1}, {97, 99, 2}, {3, 99, 0}};
         for (int[] row : rows) {
-            String told = "states 1;start 0 " + row[1] + ";end 0 " + row[1] + ";edge 0 b 0 " + row[1] + ";";
+            String told = "states 4;start 0 " + row[1] + ";start 3 " + row[1] + ";end 0 " + row[1] + ";end 3 " + row[1]
+                    + ";edge 0 a 0 " + row[1] + ";edge 3 b 3 " + row[1] + ";";
             String prime = "prime " + row[0] + ";";
             // P may be told ahead of them or behind them
             for (String text : new String[] {prime + told, told + prime}) {
-                Samples.fresh().reads(text, 5).due("start(0, 0) " + row[2], "finish(0, 0) " + row[2],
-                        "edge(0, 0, 1, 0) " + row[2]);
+                Samples.fresh().reads(text, 8).due("start(0, 0) " + row[2], "finish(0, 0) " + row[2],
+                        "start(0, 3) " + row[2], "finish(0, 3) " + row[2], "edge(0, 0, 0, 0) " + row[2],
+                        "edge(0, 3, 1, 3) " + row[2]);
             }
         }
         Samples.fresh().faulty("start 0 100;", 1, 8).faulty("end 0 100;", 1, 6).faulty("edge 0 a 0 100;", 1, 11);
@@ -362,6 +364,8 @@ final class TermsBoundaries {
         Samples.fresh().faulty("prim 5;", 2, 0).faulty("primes 5;", 2, 0).faulty("letter 2;", 2, 0);
         Samples.fresh().faulty("state 2;", 2, 0).faulty("starts 0 1;", 2, 0).faulty("ends 0 1;", 2, 0);
         Samples.fresh().faulty("edges 0 a 0 1;", 2, 0).faulty("en 0 1;", 2, 0).faulty("a 1;", 2, 0);
+        Samples.fresh().faulty("xrime 5;", 2, 0).faulty("primf 5;", 2, 0).faulty("lettars 1;", 2, 0);
+        Samples.fresh().faulty("aprime 5;", 2, 0).faulty("primez 5;", 2, 0).faulty("edge 0 az 0 1;", 2, 7);
         Samples.fresh().faulty("edge 0 d 0 1;", 2, 7).faulty("edge 0 ab 0 1;", 2, 7).faulty("edge 0 z 0 1;", 2, 7);
         // the end, also behind blanks, is at the length
         Samples.fresh().faulty("prime", 2, 5).faulty("prime ", 2, 6).faulty("prime 5", 2, 7).faulty("prime 5   ", 2, 10);
@@ -433,6 +437,10 @@ final class TermsBoundaries {
         }
         Run run = Samples.rich().calls("end(0)").read("letters 3;states 1;start 0 6;end 0 1;edge 0 c 0 1;");
         run.due("rule(0) 7", "rule(1) 3", "rule(2) 1", "rule(4) 1", "start(0, 0) 6", "start(0, 1) BAD");
+        // the word is empty, not only counted so
+        run = Samples.rich().calls("end(0)").read("states 2;start 0 1;start 1 1;end 0 1;edge 1 a 0 2;").due("value(0) 1");
+        run.due("letter(0) 1", "value(0) 2", "letter(1) 2", "value(0) 0", "wipe() 2", "value(0) 1");
+        run = Samples.rich().calls("end(0)").read("letters 1;");
         // a shelf of old stands with cells of nothing, when it stands again
         run.due("shelf(0, 0, 2) 1", "kind(0, 1) EMPTY");
     }

@@ -15,6 +15,10 @@ final class ShelfBoundaries {
         Run run = Samples.learnt().due("keep(0) 0", "ask(6) 4", "keep(1) 0", "draw(3, 4) 1", "back(0) 2", "rule(6) 2");
         run.due("back(1) 2", "rule(6) 4", "rule(7) 2", "rule(3) 2", "rule(5) 2", "scale(0) 2", "keep(1) 1", "back(0) 2");
         run.due("differ(1) 1", "rule(3) 2", "back(1) 2", "start(0, 0) 0", "rule(3) NONE", "differ(0) 1");
+        // what comes behind prefixes and suffixes later does not come to an image that was kept, or came back
+        run = Samples.told(Samples.CROSSED).due("close() 1", "keep(0) 0", "ask(1) 2", "close() 1", "back(0) 3", "rule(5) 1");
+        run.due("rule(6) 1", "ask(1) 2", "close() 1", "rule(5) 2", "back(0) 3", "rule(5) 1", "rule(6) 1", "learn() 4");
+        run.due("rule(7) 1", "back(0) 3", "rule(7) 0", "rule(3) NONE", "rule(6) 1");
         // to keep leaves all as it is
         Samples.learnt().due("keep(0) 0", "rule(7) 2", "rule(5) 2", "rule(6) 2", "rule(3) 2", "counter() NONE");
     }
@@ -43,6 +47,13 @@ final class ShelfBoundaries {
         // so is the least machine of its teacher, also if another was looked at
         Samples.told(Samples.ABA).due("rule(4) 4", "keep(0) 0", "scale(0) 4", "rule(4) 0", "basis(0) NONE", "back(0) 4",
                 "rule(4) 4", "basis(3) 9", "value(2) 0", "start(2, 3) 0", "finish(2, 3) 6");
+        // each change behind it is of the teacher alone
+        String[] changes = {"begins(0, 4)", "ends(0, 4)", "leads(0, 1, 1, 4)", "scale(3)", "turn()", "grow()", "drop(1)"};
+        run = Samples.learnt().calls("keep(0)");
+        for (String change : changes) {
+            run.due("back(0) 2").calls(change).due("back(0) 2", "start(0, 0) 1", "start(0, 1) 0", "finish(0, 0) 0",
+                    "finish(0, 1) 1", "edge(0, 0, 1, 1) 0", "edge(0, 0, 0, 1) 2", "edge(0, 1, 0, 0) 0", "rule(3) 2");
+        }
         // it stays an image, and what comes of all else does not touch it
         run = Samples.told(Samples.RING).calls("ask(2)", "learn()", "learn()", "keep(1)");
         run.due("drop(0) 3", "learn() NONE", "back(1) 4", "rule(7) 2", "rule(3) 4", "back(1) 4", "rule(11) 1");

@@ -38,15 +38,23 @@ final class Document {
         });
     }
 
-    /** The words of each promise by its number, without its head; 0: those under 'Terms'. */
+    /** What the promises tell one by one, and what FaceTest looks at. */
+    private static boolean isOverview(String line) {
+        return line.startsWith("A learner of weighted machines: ") || line.startsWith("Ahead of the calls ");
+    }
+
+    /**
+     * The words of each promise by its number, without its head; 0: those under 'Terms', and under 'What
+     * it is' those that promise something.
+     */
     private static Map<Integer, StringBuilder> parts(String all) {
         Map<Integer, StringBuilder> found = new TreeMap<>();
         int part = -1;
         for (String line : all.split("\n")) {
             if (line.startsWith("## ")) {
                 part = line.startsWith("## Promise ") ? Integer.parseInt(line.replaceAll("\\D+", ""))
-                        : line.equals("## Terms") ? 0 : -1;
-            } else if (part >= 0 && !line.startsWith("```") && !line.startsWith("Ahead of the calls ")) {
+                        : line.equals("## Terms") || line.equals("## What it is") ? 0 : -1;
+            } else if (part >= 0 && !line.startsWith("```") && !isOverview(line)) {
                 String words = line.replaceFirst("^======== \\d ", "").replaceFirst("^`[^`]*`: ", "");
                 found.computeIfAbsent(part, none -> new StringBuilder()).append(' ').append(words.trim());
             }

@@ -8,6 +8,24 @@ final class TermsBoundaries {
 
     // ---- ahead of the parts
 
+    @Says(promise = 1, terms = true, value = "An object is used for at most 512 calls after it has been made; what"
+            + " later calls answer is free.")
+    static void answersFor512Calls() {
+        Samples.fresh().times(511, "learn()").due("rule(7) 511");
+        Samples.fresh().times(510, "feed(32)").due("rule(10) 200", "text() 0");
+        Samples.fresh().calls("draw(12345, 3)", "letter(1)", "keep(0)").times(507, "turn()").due("rule(2) 3",
+                "differ(0) 4");
+        // behind these an answer may be any, but there is one
+        WeightedWords object = new WeightedWords();
+        object.draw(5, 4);
+        for (int i = 0; i < 3000; i++) {
+            object.learn();
+            object.ask(i % 63);
+            object.letter(i % 2);
+            object.feed(i % 128);
+        }
+    }
+
     @Says(promise = 1, terms = true, value = "Answers: BAD -1 (a number is not as told, there is no such STATE,"
             + " LETTER, MACHINE, ROW, COLUMN, IMAGE, SHELF),")
     static void whatIsBad() {

@@ -1,3 +1,5 @@
+import java.lang.reflect.Method;
+import java.lang.reflect.Modifier;
 import java.net.URL;
 import java.net.URLClassLoader;
 import java.nio.file.Files;
@@ -9,7 +11,7 @@ import java.util.regex.Pattern;
 import javax.tools.ToolProvider;
 
 /**
- * The examples of README.md are one piece of Java that compiles, and each call with a number behind
+ * README.md names every call. Its examples are one piece of Java that compiles, and each call with a number behind
  * it answers that number. They are written into a class of their own, in which such a call stands
  * inside a check, and this is compiled and run.
  */
@@ -65,6 +67,14 @@ public final class ReadmeTest {
         }
     }
 
+    private static void lookAtCalls(String readme) {
+        for (Method method : WeightedWords.class.getDeclaredMethods()) {
+            if (Modifier.isPublic(method.getModifiers()) && !readme.contains("`" + method.getName() + "`")) {
+                wrong("the call " + method.getName() + " is not named");
+            }
+        }
+    }
+
     private static void runAll(List<String> code) throws Exception {
         Path place = Files.createTempDirectory("readme");
         Path source = place.resolve("ReadmeExamples.java");
@@ -85,7 +95,9 @@ public final class ReadmeTest {
     }
 
     public static void main(String[] args) throws Exception {
-        runAll(checks(Files.readAllLines(Path.of("README.md"))));
+        List<String> readme = Files.readAllLines(Path.of("README.md"));
+        lookAtCalls(String.join("\n", readme));
+        runAll(checks(readme));
         if (answers < LEAST_ANSWERS) {
             wrong("only " + answers + " answers stand in the examples");
         }
